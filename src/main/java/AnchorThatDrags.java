@@ -256,14 +256,9 @@ public final class AnchorThatDrags {
 
     public int hold(int i, int h, int what) {
         Boat b = boatOf(i);
-        if (b == null) {
-            return NO_SUCH;
-        }
-        if (!isHour(h) || !within(what, 0, 3)) {
-            return WRONG;
-        }
-        if (b.isGone()) {
-            return STATE;
+        int refused = refusal(b, isHour(h) && within(what, 0, 3));
+        if (b == null || refused != 0) {
+            return refused;
         }
         int deep = bay.deepOf(b.cell, h);
         switch (what) {
@@ -352,14 +347,9 @@ public final class AnchorThatDrags {
 
     public int veer(int i, int n) {
         Boat b = boatOf(i);
-        if (b == null) {
-            return NO_SUCH;
-        }
-        if (!isNight(n)) {
-            return WRONG;
-        }
-        if (b.isGone()) {
-            return STATE;
+        int refused = refusal(b, isNight(n));
+        if (b == null || refused != 0) {
+            return refused;
         }
         for (int out = 1; out <= MOST_OUT; out++) {
             if (stays(b, b.cell, out, n)) {
@@ -413,25 +403,18 @@ public final class AnchorThatDrags {
 
     public int alarm(int i, int n, int size) {
         Boat b = boatOf(i);
-        if (b == null) {
-            return NO_SUCH;
+        int refused = refusal(b, isNight(n) && within(size, 0, SIDE));
+        if (b == null || refused != 0) {
+            return refused;
         }
-        if (!isNight(n) || !within(size, 0, SIDE)) {
-            return WRONG;
-        }
-        return b.isGone() ? STATE : sailed(i, b, n).firstBeyond(size, b.cell, now, now + n);
+        return sailed(i, b, n).firstBeyond(size, b.cell, now, now + n);
     }
 
     public int size(int i, int n, int what) {
         Boat b = boatOf(i);
-        if (b == null) {
-            return NO_SUCH;
-        }
-        if (!isNight(n) || !within(what, 0, 1)) {
-            return WRONG;
-        }
-        if (b.isGone()) {
-            return STATE;
+        int refused = refusal(b, isNight(n) && within(what, 0, 1));
+        if (b == null || refused != 0) {
+            return refused;
         }
         Course course = sailed(i, b, n);
         boolean dragged = course.first != NONE;
@@ -475,14 +458,9 @@ public final class AnchorThatDrags {
 
     public int next(int i, int ahead, int what) {
         Boat b = boatOf(i);
-        if (b == null) {
-            return NO_SUCH;
-        }
-        if (!within(ahead, 1, MOST_AHEAD) || !within(what, 0, 1)) {
-            return WRONG;
-        }
-        if (b.isGone()) {
-            return STATE;
+        int refused = refusal(b, within(ahead, 1, MOST_AHEAD) && within(what, 0, 1));
+        if (b == null || refused != 0) {
+            return refused;
         }
         int end = Math.min(HOURS, now + ahead);
         int best = 0;
@@ -499,14 +477,9 @@ public final class AnchorThatDrags {
 
     public int two(int i, int h, int ways, int what) {
         Boat b = boatOf(i);
-        if (b == null) {
-            return NO_SUCH;
-        }
-        if (!isHour(h) || !within(ways, 0, 3) || !within(what, 0, 1)) {
-            return WRONG;
-        }
-        if (b.isGone()) {
-            return STATE;
+        int refused = refusal(b, isHour(h) && within(ways, 0, 3) && within(what, 0, 1));
+        if (b == null || refused != 0) {
+            return refused;
         }
         if (what == 0) {
             return borneByEach(b, h, ways);
@@ -516,14 +489,9 @@ public final class AnchorThatDrags {
 
     public int angle(int i, int n) {
         Boat b = boatOf(i);
-        if (b == null) {
-            return NO_SUCH;
-        }
-        if (!isNight(n)) {
-            return WRONG;
-        }
-        if (b.isGone()) {
-            return STATE;
+        int refused = refusal(b, isNight(n));
+        if (b == null || refused != 0) {
+            return refused;
         }
         for (int ways = 3; ways >= 0; ways--) {
             if (twoHoldAll(b, n, ways)) {
@@ -871,6 +839,17 @@ public final class AnchorThatDrags {
 
     private Boat boatOf(int i) {
         return within(i, 0, boatCount - 1) ? boats[i] : null;
+    }
+
+    /** What refuses a call that asks of a boat not gone, with numbers fine or not; 0: nothing does. */
+    private static int refusal(Boat b, boolean fine) {
+        if (b == null) {
+            return NO_SUCH;
+        }
+        if (!fine) {
+            return WRONG;
+        }
+        return b.isGone() ? STATE : 0;
     }
 
     private Sheet sheetOf(int s) {
@@ -1512,7 +1491,7 @@ public final class AnchorThatDrags {
         private int powerTold(Boat b) {
             int power = b.gripOf(says(HOLD));
             int enough = 3 * names[DEEP];
-            return names[OUT] < enough ? power * names[OUT] / enough : power;
+            return enough > 0 && names[OUT] < enough ? power * names[OUT] / enough : power;
         }
 
         private void tell(Boat b, int c, int out, int h) {

@@ -149,6 +149,9 @@ public final class AlarmTest {
         // 0 and 99: 64 is 99 times 6 less 4 off
         due.is("marks of 0 and 99", x.marks(0, 12, 99, 17), 2);
         due.is("marks of 0 and 99", x.marks(0, 12, 99, 18), 5);
+        // from 99 to 90 along a row: 9 times how much lower it lies
+        due.is("marks of 99 and 90", x.marks(0, 12, 9990, 17), 5);
+        due.is("marks of 99 and 90", x.marks(0, 12, 9990, 18), -1);
         due.is("marks of no HOURS", x.marks(0, 0, 99, 0), -1);
         x.goOn(2);
         // now 66 is the first
@@ -160,6 +163,7 @@ public final class AlarmTest {
         due.is("marks(0, 1, -1, 0)", x.marks(0, 1, -1, 0), -7);
         due.is("marks(0, 1, 0, 0)", x.marks(0, 1, 0, 0), -7);
         due.is("marks(0, 1, 4444, 0)", x.marks(0, 1, 4444, 0), -7);
+        due.is("marks(0, 1, 9999, 0)", x.marks(0, 1, 9999, 0), -7);
         due.is("marks(0, 1, 99, 100)", x.marks(0, 1, 99, 100), -7);
         due.is("marks(0, 1, 99, -1)", x.marks(0, 1, 99, -1), -7);
         due.is("marks(1, 11, 0, 100)", x.marks(1, 11, 0, 100), -5);

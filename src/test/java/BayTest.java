@@ -52,6 +52,8 @@ public final class BayTest {
         due.is("sound(99, 1, 3)", x.sound(99, 1, 3), 0);
         due.is("sound(99, 1, 1)", x.sound(99, 1, 1), 3);
         due.is("told(99, 1)", x.told(99, 1), 1);
+        due.is("sound(98, 1, 2)", x.sound(98, 1, 2), 0);
+        due.is("sound(98, 1, 0)", x.sound(98, 1, 0), 2);
         due.is("told(99, 0)", x.told(99, 0), 5);
         due.is("told(98, 1)", x.told(98, 1), 0);
         due.is("sound(-1, 0, 1)", x.sound(-1, 0, 1), -5);
@@ -116,6 +118,8 @@ public final class BayTest {
         due.is("blow(5, 2, -3)", x.blow(5, 2, -3), 0);
         due.is("blow(5, 2, 3)", x.blow(5, 2, 3), -3);
         due.is("told(0, 2)", x.told(0, 2), 1);
+        due.is("blow(0, 0, 0)", x.blow(0, 0, 0), 1);
+        due.is("told(0, 2)", x.told(0, 2), 0);
         due.is("told(11, 3)", x.told(11, 3), 0);
         due.is("told(5, 4)", x.told(5, 4), 3);
         due.is("told(5, 2)", x.told(5, 2), 0);

@@ -203,6 +203,8 @@ public final class BoatTest {
         x.blow(1, 2, -3);
         x.sound(44, 0, 3);
         due.is("1 of DEEP 0", x.hold(0, 1, 3), 100);
+        x.sound(44, 0, 4);
+        due.is("1 of DEEP 1", x.hold(0, 1, 3), 33);
     }
 
     private static void refusalsOfHold() {

@@ -90,6 +90,10 @@ public final class FormTest {
         due.is("form(0)", x.form(0), 0);
         x.trial(0, 0, 0, 1);
         due.is("form(0) without 0", x.form(0), 1);
+        for (int f = 0; f < 5; f++) {
+            x.trial(f, 2, 0, f == 3 ? 2 : 3);
+        }
+        due.is("form(2), all of them bad", x.form(2), 3);
     }
 
     private static void joined() {

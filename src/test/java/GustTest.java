@@ -36,6 +36,10 @@ public final class GustTest {
         due.is("wind of SEED 0 in HOUR 5", gust(0, 20, 5), 14);
         due.is("wind of SEED 0, weak", gust(0, 5, 0), 0);
         due.is("wind of SEED 0, weak", gust(0, 7, 0), 1);
+        AnchorThatDrags x = Due.under("pull wind+1;hold 0;jerk 0;");
+        x.boat(0, 0, 4, 15);
+        x.blow(0, 1, 5);
+        due.is("wind bound to 0, 1 more", x.drawn(0, 1, 0, 1), 1);
         // SEED 1: 96542, modulo 41 28
         due.is("wind of SEED 1", gust(1, 20, 0), 28);
         due.is("wind of SEED 1, strong", gust(1, 95, 0), 99);
@@ -201,9 +205,10 @@ public final class GustTest {
         AnchorThatDrags x = new AnchorThatDrags();
         x.trial(0, 0, 1, 1);
         x.image();
-        x.trial(0, 0, 0, 9);
+        x.trial(0, 0, 3, 9);
         x.trial(4, 3, 2, 3);
-        due.is("rate(0, 0, 1)", x.rate(0, 0, 1), 6);
+        due.is("rate(0, 0, 0)", x.rate(0, 0, 0), 5);
+        due.is("rate(0, 0, 1)", x.rate(0, 0, 1), 12);
         x.back();
         due.is("rate(0, 0, 0)", x.rate(0, 0, 0), 2);
         due.is("rate(0, 0, 1)", x.rate(0, 0, 1), 3);

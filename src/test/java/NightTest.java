@@ -13,6 +13,7 @@ public final class NightTest {
         fleet();
         meetings();
         wake();
+        wakeOfLaterMeetings();
         goOn();
         due.end();
     }
@@ -44,6 +45,7 @@ public final class NightTest {
         night(x, 12, 0, 64, 2, 0, 94);
         x.goOn(1);
         night(x, 3, 0, 64, 1, 1, 94);
+        night(x, 0, 0, 54, 0, -1, -1);
         x.goOn(1);
         night(x, 3, 0, 64, 0, -1, 94);
     }
@@ -129,6 +131,11 @@ public final class NightTest {
         y.blow(0, 0, 4);
         due.is("MORE 0 in HOUR 0", y.night(1, 0, 1), 0);
         due.is("MORE 0 in HOUR 1", y.night(2, 0, 1), 1);
+        // in HOUR 11, too
+        AnchorThatDrags z = new AnchorThatDrags();
+        z.boat(4, 1, 44, 5);
+        z.blow(11, 0, 2);
+        due.is("MORE 1 in HOUR 11", z.night(12, 0, 2), 11);
         // pulled hard it drags as a DUG
         y.blow(1, 0, 4);
         y.let(0, 1, 15);
@@ -200,6 +207,8 @@ public final class NightTest {
         due.is("fleet(-1, 0)", x.fleet(-1, 0), -2);
         due.is("fleet(1, 4)", x.fleet(1, 4), -2);
         due.is("fleet(1, -1)", x.fleet(1, -1), -2);
+        x.boat(0, 0, 44, 5);
+        due.is("fleet(11, 0) of six", x.fleet(11, 0), 1);
         // an earlier hour goes ahead of a lesser number
         AnchorThatDrags y = new AnchorThatDrags();
         y.boat(2, 900, 3, 5);
@@ -225,6 +234,7 @@ public final class NightTest {
         for (int h = 3; h < 12; h++) {
             x.blow(h, 0, 4);
         }
+        hit(x, 12, 0, 0, 0, 2);
         due.is("fleet(12, 2)", x.fleet(12, 2), 9);
         due.is("fleet(2, 2)", x.fleet(2, 2), 6);
         hit(x, 12, 0, 0, 0, 2);
@@ -298,6 +308,20 @@ public final class NightTest {
         z.let(2, 0, 44);
         due.is("wake(1)", z.wake(1), 2);
         due.is("wake(2) with what comes later", z.wake(2), 3);
+    }
+
+    /** The first meeting may come in any hour, and be of any two. */
+    private static void wakeOfLaterMeetings() {
+        AnchorThatDrags x = new AnchorThatDrags();
+        for (int i = 0; i < 3; i++) {
+            x.boat(0, 0, i, 5);
+        }
+        x.boat(0, 0, 44, 12);
+        x.boat(0, 0, 64, 5);
+        x.blow(0, 0, 1);
+        due.is("wake(1), none", x.wake(1), -1);
+        due.is("hit(12, 0, 0)", x.hit(12, 0, 0), 1);
+        due.is("wake(12) of 3 and 4", x.wake(12), 3);
     }
 
     private static void goOn() {

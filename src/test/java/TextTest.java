@@ -87,6 +87,8 @@ public final class TextTest {
     private static void tokensAtFault() {
         fault("", 0);
         fault("   ", 3);
+        fault(" ".repeat(160), 160);
+        fault("\n".repeat(159) + "7", 159);
         fault("hold 1;", 0);
         fault(" pull", 5);
         fault(" pull  ", 7);
@@ -127,8 +129,15 @@ public final class TextTest {
         fault("pull 1a;", 6);
         fault("pull winds;", 5);
         fault("pull win;", 5);
+        fault("bull 1;", 0);
+        fault("pull kind;", 5);
+        fault("pull weep;", 5);
         fault("pull windarea;", 5);
         fault("pull nota;", 5);
+        fault("pull -x 1;", 6);
+        fault("pull (x 1);", 6);
+        fault("pull not x 1;", 9);
+        fault("pull 1+12345 2;", 7);
         fault("Pull 1;", 0);
         int[] none = {0, 9, 13, 31, 33, 39, 44, 46, 47, 58, 62, 63, 64, 65, 90, 91, 95, 96, 123, 127, 128, 160, 225, 255};
         for (int b : none) {
@@ -194,11 +203,12 @@ public final class TextTest {
         due.is("force(0)", x.force(0), 1);
         due.is("asks(0)", x.asks(0, 2003, 0, 0), 60);
         // a text at fault leaves the law alone
-        due.is("text()", Due.text(x, "pull 9;hold 9;jerk"), -118);
+        due.is("text()", Due.text(x, "pull 5;hold 6;jerk"), -118);
         due.is("asks(0)", x.asks(0, 2003, 0, 0), 60);
         // and the next one comes in its place
         due.is("text()", Due.text(x, "pull 9;hold 9;jerk 9;"), 2);
         x.force(2);
+        due.is("asks(0)", x.asks(0, 2003, 0, 0), 9);
         due.is("asks(1)", x.asks(1, 2003, 0, 0), 9);
     }
 
@@ -229,6 +239,7 @@ public final class TextTest {
         value("7 or 0", 1);
         value("0 or 7", 1);
         value("0 or 0", 0);
+        value("5+(0 or 0)+(0 and 1)+(not 1)+(1<0)+(1=0)", 5);
         value("3 and 5", 1);
         value("3 and 0", 0);
         value("0 and 3", 0);
@@ -289,6 +300,10 @@ public final class TextTest {
         due.is("asks(1) of 39", x.asks(1, 0, 0, 39), 90);
         due.is("asks(1) of 30", x.asks(1, 0, 0, 30), 0);
         due.is("asks(2) of 9900", x.asks(2, 9900, 9940, 0), 59);
+        AnchorThatDrags y = Due.under("pull deep;hold area+out;jerk heavy+bed*10;");
+        due.is("asks(0) of deep 99", y.asks(0, 0, 9900, 0), 99);
+        due.is("asks(1) of area 98 and out 97", y.asks(1, 98, 97, 0), 195);
+        due.is("asks(2) of 19", y.asks(2, 0, 0, 19), 19);
         due.is("asks(3)", x.asks(3, 0, 0, 0), -2);
         due.is("asks(-1)", x.asks(-1, 0, 0, 0), -2);
         due.is("asks windArea 10000", x.asks(0, 10000, 0, 0), -2);
