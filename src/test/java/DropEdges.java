@@ -106,6 +106,15 @@ final class DropEdges {
             }
             t.is(z.drop(0, 11, 1), 99);
             t.is(z.drop(0, 12, 1), 98);
+            // any other: the first of them, the last of them
+            AnchorThatDrags six = new AnchorThatDrags();
+            for (int i = 0; i < 6; i++) {
+                six.boat(0, 0, 11 * i, 5);
+            }
+            for (int i = 0; i < 6; i++) {
+                t.is(six.drop(i, 1, 1), 95);
+                t.is(six.drop(i, 1, 0), i == 0 ? 0 : 1);
+            }
             // one that is gone is met nowhere
             z.let(1, 0, 94);
             t.is(z.drop(0, 11, 1), 99);

@@ -206,6 +206,18 @@ final class FormEdges {
                 x.trial(3, ground, 99, 99);
             }
             t.is(x.joined(), 3);
+            // each bed may be the worst; all of them good is better than none tried
+            for (int worst = 0; worst < 4; worst++) {
+                AnchorThatDrags y = new AnchorThatDrags();
+                t.is(y.trial(0, worst, 0, 1), 1);
+                t.is(y.joined(), 1);
+                for (int ground = 0; ground < 4; ground++) {
+                    y.trial(3, ground, 1, ground == worst ? 2 : 1);
+                }
+                t.is(y.joined(), 1);
+                y.trial(3, worst, 1, 1);
+                t.is(y.joined(), 3);
+            }
         });
     }
 }

@@ -89,6 +89,15 @@ final class NextEdges {
             due(t, x, 1, 2, 2);
             // asked, it is as it was
             t.is(x.boatTold(0, 5), 40);
+            // twice: 10 more by the second hour, by nothing else held
+            AnchorThatDrags twice = Scenes.under("pull wind*10;hold out*20;jerk 0;");
+            twice.boat(0, 0, 44, 10);
+            twice.sound(44, 0, 0);
+            twice.blow(0, 1, 0);
+            twice.blow(1, 1, 40);
+            due(t, twice, 2, 1, 2);
+            twice.blow(1, 1, 41);
+            due(t, twice, 2, 0, 5);
         });
         e.terms("2 PULL 40 less in that HOUR (2);", t -> {
             due(t, pulled(0, "140", 100), 1, 2, 2);

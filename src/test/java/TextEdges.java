@@ -204,7 +204,9 @@ final class TextEdges {
             fault(t, "pull 1);hold 2;jerk 3;", 6);
             fault(t, "pull -;hold 2;jerk 3;", 6);
             fault(t, "pull -not 1;hold 2;jerk 3;", 6);
-            fault(t, "pull hold;hold 2;jerk 3;", 5);
+            for (String key : new String[] {"pull", "hold", "jerk", "or", "and"}) {
+                fault(t, "pull " + key + ";hold 2;jerk 3;", 5);
+            }
         });
         e.terms("NAMES: wind area deep out bed heavy.", t -> {
             value(t, "wind", 12);
@@ -536,6 +538,14 @@ final class TextEdges {
             t.is(x.text(), 2);
             x.force(2);
             t.is(x.asks(0, 0, 0, 0), 4);
+            // of a longer text at fault nothing is in the next one
+            AnchorThatDrags y = new AnchorThatDrags();
+            t.is(Scenes.text(y, "pull 1;hold 2;jerk -3;x"), -122);
+            t.is(Scenes.text(y, "pull 4;hold 5;jerk 6;"), 1);
+            y.force(1);
+            for (int part = 0; part < 3; part++) {
+                t.is(y.asks(part, 0, 0, 0), 4 + part);
+            }
             // the law stays till it is told
             t.is(x.force(1), 2);
             t.is(Scenes.text(x, "pull 5" + REST), 3);
